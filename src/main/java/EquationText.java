@@ -11,8 +11,6 @@ public final class EquationText {
     private static final int MOST_TOKENS = 16384;
     private static final int FED = 20;
 
-    private final Reader reader = new Reader();
-    private final Writer writer = new Writer();
     private final Nodes tree = new Nodes();
     private Row tape = new Row();
     // The tape is emptied by each reading, but the tree's tokens are asked for and written later.
@@ -20,6 +18,8 @@ public final class EquationText {
     private Row form = new Row();
     // A form that turns out too long must leave the one before as it was.
     private Row spareForm = new Row();
+    private final Reader reader = new Reader(tape);
+    private final Writer writer = new Writer(tree, source, form);
     private int fault = NONE;
 
     public EquationText() {
@@ -89,7 +89,7 @@ public final class EquationText {
     }
 
     public int write() {
-        if (tree.count() == 0 || !writer.fits(tree, source, spareForm)) {
+        if (tree.count() == 0 || !writer.fits(source, spareForm)) {
             return NONE;
         }
         Row before = form;
@@ -291,7 +291,8 @@ public final class EquationText {
         private static final int COLUMNS = 7;
         // Each node but PROGRAM can be laid to a token of its own.
         private static final int MOST = MOST_TOKENS + 1;
-        private final Numbers cells = new Numbers(MOST * COLUMNS);
+        private static final int FIRST_ROOM = 32;
+        private int[] cells = new int[FIRST_ROOM * COLUMNS];
         private int count = 0;
 
         int count() {
@@ -299,12 +300,12 @@ public final class EquationText {
         }
 
         int get(int k, int column) {
-            return k >= 0 && k < count ? cells.get(k * COLUMNS + column) : NONE;
+            return k >= 0 && k < count && column >= 0 && column < COLUMNS ? cells[k * COLUMNS + column] : NONE;
         }
 
         private void set(int k, int column, int value) {
-            if (k >= 0 && k < count) {
-                cells.set(k * COLUMNS + column, value);
+            if (k >= 0 && k < count && column >= 0 && column < COLUMNS) {
+                cells[k * COLUMNS + column] = value;
             }
         }
 
@@ -323,14 +324,12 @@ public final class EquationText {
         }
 
         void clear() {
-            cells.cut(0);
             count = 0;
         }
 
         void dropLast() {
             if (count > 0) {
                 count--;
-                cells.cut(count * COLUMNS);
             }
         }
 
@@ -339,17 +338,21 @@ public final class EquationText {
             if (count >= MOST) {
                 return;
             }
+            int at = count * COLUMNS;
+            if (at + COLUMNS > cells.length) {
+                cells = Arrays.copyOf(cells, Math.min(2 * cells.length, MOST * COLUMNS));
+            }
             int from = count;
             for (int i = 0; i < parts; i++) {
                 from -= get(from - 1, SIZE);
             }
-            cells.add(kind);
-            cells.add(place);
-            cells.add(second);
-            cells.add(parts);
-            cells.add(width);
-            cells.add(count - from + 1);
-            cells.add(NONE);
+            cells[at + KIND] = kind;
+            cells[at + PLACE] = place;
+            cells[at + SECOND] = second;
+            cells[at + PARTS] = parts;
+            cells[at + WIDTH] = width;
+            cells[at + SIZE] = count - from + 1;
+            cells[at + LINK] = NONE;
             count++;
         }
 
@@ -422,17 +425,17 @@ public final class EquationText {
         private static final int LONGEST_TEXT = 4096;
         private static final int LARGEST_EXPONENT = 1000000;
         // 2^1024 - 2^970: from here on the nearest number is no longer finite.
-        private static final String TOO_LARGE =
-                "179769313486231580793728971405303415079934132710037826936173778980444968292764750946649017977587207"
-                + "096330286416692887910946555547851940402630657488671505820681908902000708383676273854845817711531764"
-                + "475730270069855571366959622842914819860834936475292719074168444365510704342711559699508093042880177"
-                + "904174497792";
+        private static final String TOO_LARGE = "179769313486231580793728971405303415079934132710037826936173778980444968292764750946649017977587207096330286416692887910946555547851940402630657488671505820681908902000708383676273854845817711531764475730270069855571366959622842914819860834936475292719074168444365510704342711559699508093042880177904174497792";
 
-        private Row text = new Row();
+        private Row text;
         private int next = 0;
         private int kind = OVER;
         private int start = 0;
         private int width = 0;
+
+        Scanner(Row text) {
+            this.text = text;
+        }
 
         void begin(Row newText) {
             text = newText;
@@ -672,21 +675,23 @@ public final class EquationText {
 
     /** Operations and signs whose last part has not ended. */
     private static final class Waiting {
-        private static final int RANK = 0;
-        private static final int PLACE = 1;
-        private static final int SECOND = 2;
-        private static final int WIDTH = 3;
+        static final int RANK = 0;
+        static final int PLACE = 1;
+        static final int SECOND = 2;
+        static final int WIDTH = 3;
         private static final int COLUMNS = 4;
         // Each of 61 frames has at most eight and the signs that its level leaves: fewer than these.
         private static final int MOST = 4096;
         private final Numbers cells = new Numbers(MOST * COLUMNS);
+        private int count = 0;
 
         int count() {
-            return cells.size() / COLUMNS;
+            return count;
         }
 
-        void cut(int count) {
-            cells.cut(count * COLUMNS);
+        void clear() {
+            cells.cut(0);
+            count = 0;
         }
 
         void add(int rank, int place, int width) {
@@ -694,30 +699,23 @@ public final class EquationText {
             cells.add(place);
             cells.add(NONE);
             cells.add(width);
+            count++;
         }
 
-        private int last(int column) {
-            return cells.get(cells.size() - COLUMNS + column);
+        void dropLast() {
+            if (count > 0) {
+                count--;
+                cells.cut(count * COLUMNS);
+            }
         }
 
-        int rank() {
-            return last(RANK);
-        }
-
-        int latestPlace() {
-            return last(PLACE);
-        }
-
-        int second() {
-            return last(SECOND);
-        }
-
-        int width() {
-            return last(WIDTH);
+        /** Of the latest one. */
+        int last(int column) {
+            return cells.get((count - 1) * COLUMNS + column);
         }
 
         void giveSecond(int place) {
-            cells.set(cells.size() - COLUMNS + SECOND, place);
+            cells.set((count - 1) * COLUMNS + SECOND, place);
         }
     }
 
@@ -775,20 +773,25 @@ public final class EquationText {
         private static final int ROWS_OR_TARGETS = 41;
         private static final int SIGN_OR_TARGET = 42;
 
-        private final Scanner scanner = new Scanner();
+        private final Scanner scanner;
         private final Nodes draft = new Nodes();
         private final Waiting waiting = new Waiting();
         // The place and the width of the NAME of each function so far.
         private final Numbers functions = new Numbers(2 * MOST_FUNCTIONS);
         private final Frame bottom = new Frame(null);
         private Frame top = bottom;
-        private Row text = new Row();
+        private Row text;
         private int mode = STATEMENT;
         private int levels = 0;
         private int signs = 0;
         private int loops = 0;
         private int token = Scanner.OVER;
         private int fault = NONE;
+
+        Reader(Row text) {
+            this.text = text;
+            scanner = new Scanner(text);
+        }
 
         Nodes draft() {
             return draft;
@@ -808,6 +811,7 @@ public final class EquationText {
                     draft.add(Kind.PROGRAM, 0, NONE, top.innerParts, 0);
                     return tokens;
                 }
+                settle();
                 // At the text's end the scanner stands at its length, where that fault is.
                 if (token == Scanner.OVER || token == Scanner.WRONG || tokens == MOST_TOKENS || !stands()) {
                     fault = scanner.start();
@@ -821,7 +825,7 @@ public final class EquationText {
             text = newText;
             scanner.begin(newText);
             draft.clear();
-            waiting.cut(0);
+            waiting.clear();
             functions.cut(0);
             top = bottom;
             top.begin(Kind.PROGRAM, 0, 0);
@@ -832,31 +836,15 @@ public final class EquationText {
             fault = NONE;
         }
 
+        /** Whether the token may come next; then it is taken. */
         private boolean stands() {
-            settle();
             if (mode >= START) {
                 return standsInExpression();
             }
             if (mode >= TARGET) {
                 return standsInSeveral();
             }
-            if (mode >= FUNCTION_FIRST) {
-                return standsInFunctionHead();
-            }
-            switch (mode) {
-                case STATEMENT:
-                    return beginStatement();
-                case SEMICOLON:
-                    return token == ';' && endStatement();
-                case HEAD_OPEN:
-                    return token == '(' && openHead();
-                case FOR_NAME:
-                    return token == Scanner.NAME && addName(FOR_EQUALS);
-                case FOR_EQUALS:
-                    return token == '=' && goOn(START);
-                default:
-                    return false;
-            }
+            return mode >= FUNCTION_FIRST ? standsInFunctionHead() : standsInStatement();
         }
 
         private boolean goOn(int newMode) {
@@ -895,11 +883,14 @@ public final class EquationText {
             return true;
         }
 
-        /** Decides what the latest token was, where this one tells it. */
+        /** Decides what the latest token was, or what begins, where this one tells it. */
         private void settle() {
             if (mode == STATEMENT && !Scanner.isWord(token)) {
                 push(Kind.ALONE);
                 mode = START;
+            }
+            if (mode == START) {
+                settleStart();
             } else if (mode == NAME_OR_WITH && token != '(') {
                 endItem();
             } else if (mode == ROWS_OR_TARGETS && token != '=') {
@@ -908,14 +899,43 @@ public final class EquationText {
                 top.targets = false;
                 mode = OPERAND;
             } else if (mode == SIGN_OR_TARGET) {
-                int place = waiting.latestPlace();
-                waiting.cut(waiting.count() - 1);
+                int place = waiting.last(Waiting.PLACE);
+                waiting.dropLast();
                 endItem();
                 becomeTargets(place);
             }
         }
 
+        private void settleStart() {
+            if (top.kind == Kind.ROWS && top.innerParts == 0) {
+                top.innerPlace = scanner.start();
+                top.innerWidth = scanner.width();
+            }
+            boolean canBeTarget = top.targets && (token == Scanner.NAME || token == '~');
+            top.targets = canBeTarget;
+            if (token != ')' && token != ']' && token != ':' && !(canBeTarget && token == '~')) {
+                mode = OPERAND;
+            }
+        }
+
         // Blocks and statements.
+
+        private boolean standsInStatement() {
+            switch (mode) {
+                case STATEMENT:
+                    return beginStatement();
+                case SEMICOLON:
+                    return token == ';' && endStatement();
+                case HEAD_OPEN:
+                    return token == '(' && goDeeper() && openHead();
+                case FOR_NAME:
+                    return token == Scanner.NAME && addName(FOR_EQUALS);
+                case FOR_EQUALS:
+                    return token == '=' && goOn(START);
+                default:
+                    return false;
+            }
+        }
 
         private boolean beginStatement() {
             switch (token) {
@@ -1013,9 +1033,6 @@ public final class EquationText {
         }
 
         private boolean openHead() {
-            if (!goDeeper()) {
-                return false;
-            }
             boolean isFor = top.kind == Kind.FOR;
             push(HEAD);
             return goOn(isFor ? FOR_NAME : START);
@@ -1151,7 +1168,7 @@ public final class EquationText {
 
         private boolean addNothing(int place) {
             top.innerParts++;
-            draft.addLeaf(Kind.NOTHING, place, 1);
+            draft.add(Kind.NOTHING, place, NONE, 0, 1);
             return goOn(TARGET_OVER);
         }
 
@@ -1210,7 +1227,7 @@ public final class EquationText {
         private boolean standsInExpression() {
             switch (mode) {
                 case START:
-                    return beginValue();
+                    return takeAtStart();
                 case OPERAND: case POWER_OPERAND: case SIGNED_POWER_OPERAND:
                     return takeOperand();
                 case OPERATOR:
@@ -1226,17 +1243,8 @@ public final class EquationText {
             }
         }
 
-        private boolean beginValue() {
-            if (top.kind == Kind.ROWS && top.innerParts == 0) {
-                top.innerPlace = scanner.start();
-                top.innerWidth = scanner.width();
-            }
-            if (token == '~' && top.targets) {
-                return takeSignOrTarget();
-            }
-            if (token != Scanner.NAME) {
-                top.targets = false;
-            }
+        /** Takes what can stand only where a value begins. */
+        private boolean takeAtStart() {
             switch (token) {
                 case ')':
                     return isCall(top.kind) && top.parts == 0 && closeCall();
@@ -1244,18 +1252,16 @@ public final class EquationText {
                     return top.kind == Kind.ROWS && top.parts == 0 && top.innerParts == 0 && closeRows();
                 case ':':
                     return top.kind == Kind.WITH && top.parts < MOST_LIMITED && addAll();
+                case '~':
+                    // Where no level is left, only a target can stand.
+                    return takeSign() ? goOn(SIGN_OR_TARGET) : becomeTargets(scanner.start());
                 default:
-                    return takeOperand();
+                    return false;
             }
         }
 
         private static boolean isCall(int kind) {
             return kind == Kind.WITH || kind == CALL;
-        }
-
-        private boolean takeSignOrTarget() {
-            // Where no level is left, only a target can stand.
-            return takeSign() ? goOn(SIGN_OR_TARGET) : becomeTargets(scanner.start());
         }
 
         private boolean addAll() {
@@ -1279,7 +1285,7 @@ public final class EquationText {
                 case '[':
                     return goDeeper() && openItem(Kind.ROWS);
                 case '-': case '+': case '~':
-                    return mode == START || mode == OPERAND ? takeSign() : takePowerSign();
+                    return mode == OPERAND ? takeSign() : takePowerSign();
                 default:
                     return false;
             }
@@ -1310,11 +1316,12 @@ public final class EquationText {
         private boolean endItem() {
             levels -= signs;
             signs = 0;
-            return goOn(OPERATOR);
+            mode = OPERATOR;
+            return true;
         }
 
         private boolean openItem(int kind) {
-            boolean beginsStatement = mode == START && top.kind == Kind.ALONE;
+            boolean beginsStatement = top.kind == Kind.ALONE && top.place == scanner.start();
             push(kind);
             top.targets = kind == Kind.ROWS && beginsStatement;
             return goOn(START);
@@ -1376,13 +1383,13 @@ public final class EquationText {
 
         /** Ends what waits in the top frame and binds as tightly as the rank, or more. */
         private void endWaiting(int rank) {
-            while (waiting.count() > top.waitingBelow && waiting.rank() >= rank) {
-                int ended = waiting.rank();
+            for (int left = waiting.count(); left > top.waitingBelow && waiting.last(Waiting.RANK) >= rank; left--) {
+                int ended = waiting.last(Waiting.RANK);
                 boolean isSign = ended == Rank.SIGN || ended == POWER_SIGN;
                 int kind = isSign ? Kind.SIGN : ended == Rank.RANGE ? Kind.RANGE : Kind.OPERATION;
-                int parts = isSign ? 1 : waiting.second() == NONE ? 2 : 3;
-                draft.add(kind, waiting.latestPlace(), waiting.second(), parts, waiting.width());
-                waiting.cut(waiting.count() - 1);
+                int parts = isSign ? 1 : waiting.last(Waiting.SECOND) == NONE ? 2 : 3;
+                draft.add(kind, waiting.last(Waiting.PLACE), waiting.last(Waiting.SECOND), parts, waiting.last(Waiting.WIDTH));
+                waiting.dropLast();
             }
         }
 
@@ -1392,10 +1399,10 @@ public final class EquationText {
         }
 
         private boolean takeColon() {
-            if (waiting.count() == top.waitingBelow || waiting.rank() != Rank.RANGE) {
+            if (waiting.count() == top.waitingBelow || waiting.last(Waiting.RANK) != Rank.RANGE) {
                 return takeOperation(Rank.RANGE);
             }
-            if (waiting.second() != NONE) {
+            if (waiting.last(Waiting.SECOND) != NONE) {
                 return false;
             }
             waiting.giveSecond(scanner.start());
@@ -1495,16 +1502,20 @@ public final class EquationText {
 
     /** Writes a tree in its one form, node by node; trees can be too deep for calls within calls. */
     private static final class Writer {
-        private static final int LINE_END = 10;
-        private Nodes tree = new Nodes();
-        private Row source = new Row();
-        private Row form = new Row();
+        private final Nodes tree;
+        private Row source;
+        private Row form;
         private int indent = 0;
         private boolean fits = true;
 
-        /** Whether the form has room in the row, which it then fills. */
-        boolean fits(Nodes newTree, Row newSource, Row newForm) {
-            tree = newTree;
+        Writer(Nodes tree, Row source, Row form) {
+            this.tree = tree;
+            this.source = source;
+            this.form = form;
+        }
+
+        /** Whether the form of the tree has room in a row, which it then fills. */
+        boolean fits(Row newSource, Row newForm) {
             source = newSource;
             form = newForm;
             form.cut(0);
@@ -1513,7 +1524,7 @@ public final class EquationText {
             for (int k = 0; k < tree.count() && fits; k++) {
                 enter(k);
                 int ended = k;
-                while (ended >= 0 && tree.after(ended) == k + 1) {
+                for (int left = 0; left <= k && ended >= 0 && tree.after(ended) == k + 1; left++) {
                     leave(ended);
                     ended = tree.get(ended, Nodes.LINK);
                 }
@@ -1525,13 +1536,9 @@ public final class EquationText {
             return tree.get(k, Nodes.KIND);
         }
 
-        private void put(int character) {
-            fits = form.add(character) && fits;
-        }
-
         private void put(String words) {
             for (int i = 0; i < words.length(); i++) {
-                put(words.charAt(i));
+                fits = form.add(words.charAt(i)) && fits;
             }
         }
 
@@ -1539,7 +1546,7 @@ public final class EquationText {
             int from = tree.tokenPlace(k);
             int width = tree.get(k, Nodes.WIDTH);
             for (int i = 0; i < width; i++) {
-                put(source.at(from + i));
+                fits = form.add(source.at(from + i)) && fits;
             }
         }
 
@@ -1550,26 +1557,15 @@ public final class EquationText {
             put(words);
         }
 
-        private void putLine(String words) {
-            beginLine(words);
-            put(LINE_END);
-        }
-
-        private void endLine(String words) {
-            put(words);
-            put(LINE_END);
-        }
-
         private void enter(int k) {
             int whole = tree.get(k, Nodes.LINK);
-            boolean first = k == whole + 1;
-            if (first) {
+            if (k == whole + 1) {
                 leadFirst(whole, k);
             } else {
                 lead(whole, k);
             }
             if (needsBrackets(whole, k)) {
-                put('(');
+                put("(");
             }
             begin(k);
         }
@@ -1578,7 +1574,7 @@ public final class EquationText {
             int whole = tree.get(k, Nodes.LINK);
             finish(k);
             if (needsBrackets(whole, k)) {
-                put(')');
+                put(")");
             }
             trail(whole, k);
         }
@@ -1602,7 +1598,7 @@ public final class EquationText {
                     beginLine("for (");
                     break;
                 case Kind.TRY:
-                    putLine("try");
+                    beginLine("try\n");
                     break;
                 default:
                     break;
@@ -1628,21 +1624,17 @@ public final class EquationText {
                     putOperation(whole);
                     break;
                 case Kind.IF:
-                    leadOfIf(whole, k);
+                    if (kind(k) != Kind.BLOCK) {
+                        beginLine("elseif (");
+                    } else if (isElse(whole, k)) {
+                        beginLine("else\n");
+                    }
                     break;
                 case Kind.TRY:
-                    putLine("catch");
+                    beginLine("catch\n");
                     break;
                 default:
                     break;
-            }
-        }
-
-        private void leadOfIf(int whole, int k) {
-            if (kind(k) != Kind.BLOCK) {
-                beginLine("elseif (");
-            } else if (isElse(whole, k)) {
-                putLine("else");
             }
         }
 
@@ -1701,11 +1693,11 @@ public final class EquationText {
                     indent--;
                     break;
                 case Kind.FUNCTION: case Kind.IF: case Kind.WHILE: case Kind.FOR: case Kind.TRY:
-                    putLine("end");
+                    beginLine("end\n");
                     break;
                 case Kind.SEVERAL: case Kind.BREAK: case Kind.CONTINUE: case Kind.RETURN:
                 case Kind.PRINT: case Kind.SHOW: case Kind.ALONE: case Kind.GIVE:
-                    endLine(";");
+                    put(";\n");
                     break;
                 case Kind.WITH:
                     put(")");
@@ -1735,12 +1727,12 @@ public final class EquationText {
                     if (first) {
                         put(" = ");
                     } else if (kind(k) != Kind.BLOCK) {
-                        endLine(")");
+                        put(")\n");
                     }
                     break;
                 case Kind.IF: case Kind.WHILE:
                     if (kind(k) != Kind.BLOCK) {
-                        endLine(")");
+                        put(")\n");
                     }
                     break;
                 default:
@@ -1755,7 +1747,7 @@ public final class EquationText {
                 putToken(whole);
                 put("(");
             } else if (kind(k) == Kind.NAMES) {
-                endLine(")");
+                put(")\n");
             }
         }
 

@@ -11,6 +11,8 @@ public final class EquationText {
     private static final int MOST_TOKENS = 16384;
     private static final int FED = 20;
 
+    private final Reader reader = new Reader();
+    private final Writer writer = new Writer();
     private final Nodes tree = new Nodes();
     private Row tape = new Row();
     // The tape is emptied by each reading, but the tree's tokens are asked for and written later.
@@ -18,8 +20,6 @@ public final class EquationText {
     private Row form = new Row();
     // A form that turns out too long must leave the one before as it was.
     private Row spareForm = new Row();
-    private final Reader reader = new Reader(tape);
-    private final Writer writer = new Writer(tree, source, form);
     private int fault = NONE;
 
     public EquationText() {
@@ -89,7 +89,7 @@ public final class EquationText {
     }
 
     public int write() {
-        if (tree.count() == 0 || !writer.fits(source, spareForm)) {
+        if (tree.count() == 0 || !writer.fits(tree, source, spareForm)) {
             return NONE;
         }
         Row before = form;
@@ -229,49 +229,6 @@ public final class EquationText {
                 }
             }
             return true;
-        }
-    }
-
-    /** Numbers, as many as are told at the making. */
-    private static final class Numbers {
-        private static final int FIRST_ROOM = 64;
-        private final int most;
-        private int[] cells = new int[FIRST_ROOM];
-        private int size = 0;
-
-        Numbers(int most) {
-            this.most = most;
-        }
-
-        int size() {
-            return size;
-        }
-
-        int get(int i) {
-            return i >= 0 && i < size && i < cells.length ? cells[i] : NONE;
-        }
-
-        void set(int i, int value) {
-            if (i >= 0 && i < size && i < cells.length) {
-                cells[i] = value;
-            }
-        }
-
-        void add(int value) {
-            if (size >= most) {
-                return;
-            }
-            if (size >= cells.length) {
-                cells = Arrays.copyOf(cells, Math.min(2 * cells.length, most));
-            }
-            cells[size] = value;
-            size++;
-        }
-
-        void cut(int n) {
-            if (n >= 0 && n < size) {
-                size = n;
-            }
         }
     }
 
@@ -427,15 +384,11 @@ public final class EquationText {
         // 2^1024 - 2^970: from here on the nearest number is no longer finite.
         private static final String TOO_LARGE = "179769313486231580793728971405303415079934132710037826936173778980444968292764750946649017977587207096330286416692887910946555547851940402630657488671505820681908902000708383676273854845817711531764475730270069855571366959622842914819860834936475292719074168444365510704342711559699508093042880177904174497792";
 
-        private Row text;
+        private Row text = new Row();
         private int next = 0;
         private int kind = OVER;
         private int start = 0;
         private int width = 0;
-
-        Scanner(Row text) {
-            this.text = text;
-        }
 
         void begin(Row newText) {
             text = newText;
@@ -673,16 +626,15 @@ public final class EquationText {
         }
     }
 
-    /** Operations and signs whose last part has not ended. */
-    private static final class Waiting {
+    /** Tokens that are kept while a text is read, the latest one last. */
+    private static final class Tokens {
         static final int RANK = 0;
         static final int PLACE = 1;
         static final int SECOND = 2;
         static final int WIDTH = 3;
         private static final int COLUMNS = 4;
-        // Each of 61 frames has at most eight and the signs that its level leaves: fewer than these.
-        private static final int MOST = 4096;
-        private final Numbers cells = new Numbers(MOST * COLUMNS);
+        private static final int FIRST_ROOM = 16;
+        private int[] cells = new int[FIRST_ROOM * COLUMNS];
         private int count = 0;
 
         int count() {
@@ -690,32 +642,42 @@ public final class EquationText {
         }
 
         void clear() {
-            cells.cut(0);
             count = 0;
         }
 
         void add(int rank, int place, int width) {
-            cells.add(rank);
-            cells.add(place);
-            cells.add(NONE);
-            cells.add(width);
+            if (count >= MOST_TOKENS) {
+                return;
+            }
+            int at = count * COLUMNS;
+            if (at + COLUMNS > cells.length) {
+                cells = Arrays.copyOf(cells, 2 * cells.length);
+            }
+            cells[at + RANK] = rank;
+            cells[at + PLACE] = place;
+            cells[at + SECOND] = NONE;
+            cells[at + WIDTH] = width;
             count++;
         }
 
         void dropLast() {
             if (count > 0) {
                 count--;
-                cells.cut(count * COLUMNS);
             }
         }
 
-        /** Of the latest one. */
-        int last(int column) {
-            return cells.get((count - 1) * COLUMNS + column);
+        int get(int i, int column) {
+            return i >= 0 && i < count && column >= 0 && column < COLUMNS ? cells[i * COLUMNS + column] : NONE;
         }
 
-        void giveSecond(int place) {
-            cells.set((count - 1) * COLUMNS + SECOND, place);
+        int last(int column) {
+            return get(count - 1, column);
+        }
+
+        void giveLastSecond(int place) {
+            if (count > 0) {
+                cells[(count - 1) * COLUMNS + SECOND] = place;
+            }
         }
     }
 
@@ -727,7 +689,6 @@ public final class EquationText {
         private static final int MOST_LEVELS = 60;
         private static final int MOST_IN_LIST = 8;
         private static final int MOST_LIMITED = 2;
-        private static final int MOST_FUNCTIONS = MOST_TOKENS;
 
         // Frames that are no nodes.
         private static final int GROUP = 50;
@@ -773,25 +734,21 @@ public final class EquationText {
         private static final int ROWS_OR_TARGETS = 41;
         private static final int SIGN_OR_TARGET = 42;
 
-        private final Scanner scanner;
+        private final Scanner scanner = new Scanner();
         private final Nodes draft = new Nodes();
-        private final Waiting waiting = new Waiting();
-        // The place and the width of the NAME of each function so far.
-        private final Numbers functions = new Numbers(2 * MOST_FUNCTIONS);
+        // Operations and signs whose last part has not ended.
+        private final Tokens waiting = new Tokens();
+        // The NAME of each function so far.
+        private final Tokens functions = new Tokens();
         private final Frame bottom = new Frame(null);
         private Frame top = bottom;
-        private Row text;
+        private Row text = new Row();
         private int mode = STATEMENT;
         private int levels = 0;
         private int signs = 0;
         private int loops = 0;
         private int token = Scanner.OVER;
         private int fault = NONE;
-
-        Reader(Row text) {
-            this.text = text;
-            scanner = new Scanner(text);
-        }
 
         Nodes draft() {
             return draft;
@@ -812,8 +769,10 @@ public final class EquationText {
                     return tokens;
                 }
                 settle();
-                // At the text's end the scanner stands at its length, where that fault is.
-                if (token == Scanner.OVER || token == Scanner.WRONG || tokens == MOST_TOKENS || !stands()) {
+                boolean stands = mode >= START ? standsInExpression() : mode >= TARGET ? standsInSeveral()
+                        : mode >= FUNCTION_FIRST ? standsInFunctionHead() : standsInStatement();
+                // At the text's end the scanner is at its length, where that fault is.
+                if (!stands || tokens == MOST_TOKENS) {
                     fault = scanner.start();
                     return NONE;
                 }
@@ -826,7 +785,7 @@ public final class EquationText {
             scanner.begin(newText);
             draft.clear();
             waiting.clear();
-            functions.cut(0);
+            functions.clear();
             top = bottom;
             top.begin(Kind.PROGRAM, 0, 0);
             mode = STATEMENT;
@@ -834,17 +793,6 @@ public final class EquationText {
             signs = 0;
             loops = 0;
             fault = NONE;
-        }
-
-        /** Whether the token may come next; then it is taken. */
-        private boolean stands() {
-            if (mode >= START) {
-                return standsInExpression();
-            }
-            if (mode >= TARGET) {
-                return standsInSeveral();
-            }
-            return mode >= FUNCTION_FIRST ? standsInFunctionHead() : standsInStatement();
         }
 
         private boolean goOn(int newMode) {
@@ -899,7 +847,7 @@ public final class EquationText {
                 top.targets = false;
                 mode = OPERAND;
             } else if (mode == SIGN_OR_TARGET) {
-                int place = waiting.last(Waiting.PLACE);
+                int place = waiting.last(Tokens.PLACE);
                 waiting.dropLast();
                 endItem();
                 becomeTargets(place);
@@ -1093,13 +1041,13 @@ public final class EquationText {
         }
 
         private boolean nameFunction() {
-            for (int i = 0; i < functions.size(); i += 2) {
-                if (functions.get(i + 1) == top.width && text.same(functions.get(i), top.second, top.width)) {
+            for (int i = 0; i < functions.count(); i++) {
+                if (functions.get(i, Tokens.WIDTH) == top.width
+                        && text.same(functions.get(i, Tokens.PLACE), top.second, top.width)) {
                     return false;
                 }
             }
-            functions.add(top.second);
-            functions.add(top.width);
+            functions.add(Rank.ITEM, top.second, top.width);
             endNames(top.second);
             return true;
         }
@@ -1151,7 +1099,7 @@ public final class EquationText {
                 case SEVERAL_EQUALS:
                     return token == '=' && takeSeveralEquals();
                 case SEVERAL_NAME:
-                    return token == Scanner.NAME && openValuesOfCall();
+                    return token == Scanner.NAME && beginCall();
                 case SEVERAL_OPEN:
                     return token == '(' && goDeeper() && openCall();
                 case SEVERAL_OVER:
@@ -1184,7 +1132,7 @@ public final class EquationText {
             return goOn(SEVERAL_NAME);
         }
 
-        private boolean openValuesOfCall() {
+        private boolean beginCall() {
             push(CALL);
             return goOn(SEVERAL_OPEN);
         }
@@ -1383,12 +1331,12 @@ public final class EquationText {
 
         /** Ends what waits in the top frame and binds as tightly as the rank, or more. */
         private void endWaiting(int rank) {
-            for (int left = waiting.count(); left > top.waitingBelow && waiting.last(Waiting.RANK) >= rank; left--) {
-                int ended = waiting.last(Waiting.RANK);
+            for (int left = waiting.count(); left > top.waitingBelow && waiting.last(Tokens.RANK) >= rank; left--) {
+                int ended = waiting.last(Tokens.RANK);
                 boolean isSign = ended == Rank.SIGN || ended == POWER_SIGN;
                 int kind = isSign ? Kind.SIGN : ended == Rank.RANGE ? Kind.RANGE : Kind.OPERATION;
-                int parts = isSign ? 1 : waiting.last(Waiting.SECOND) == NONE ? 2 : 3;
-                draft.add(kind, waiting.last(Waiting.PLACE), waiting.last(Waiting.SECOND), parts, waiting.last(Waiting.WIDTH));
+                int parts = isSign ? 1 : waiting.last(Tokens.SECOND) == NONE ? 2 : 3;
+                draft.add(kind, waiting.last(Tokens.PLACE), waiting.last(Tokens.SECOND), parts, waiting.last(Tokens.WIDTH));
                 waiting.dropLast();
             }
         }
@@ -1399,13 +1347,13 @@ public final class EquationText {
         }
 
         private boolean takeColon() {
-            if (waiting.count() == top.waitingBelow || waiting.last(Waiting.RANK) != Rank.RANGE) {
+            if (waiting.count() == top.waitingBelow || waiting.last(Tokens.RANK) != Rank.RANGE) {
                 return takeOperation(Rank.RANGE);
             }
-            if (waiting.last(Waiting.SECOND) != NONE) {
+            if (waiting.last(Tokens.SECOND) != NONE) {
                 return false;
             }
-            waiting.giveSecond(scanner.start());
+            waiting.giveLastSecond(scanner.start());
             return goOn(OPERAND);
         }
 
@@ -1502,20 +1450,15 @@ public final class EquationText {
 
     /** Writes a tree in its one form, node by node; trees can be too deep for calls within calls. */
     private static final class Writer {
-        private final Nodes tree;
-        private Row source;
-        private Row form;
+        private Nodes tree = new Nodes();
+        private Row source = new Row();
+        private Row form = new Row();
         private int indent = 0;
         private boolean fits = true;
 
-        Writer(Nodes tree, Row source, Row form) {
-            this.tree = tree;
-            this.source = source;
-            this.form = form;
-        }
-
-        /** Whether the form of the tree has room in a row, which it then fills. */
-        boolean fits(Row newSource, Row newForm) {
+        /** Whether the form of a tree has room in a row, which it then fills. */
+        boolean fits(Nodes newTree, Row newSource, Row newForm) {
+            tree = newTree;
             source = newSource;
             form = newForm;
             form.cut(0);

@@ -128,6 +128,7 @@ public final class PromisesTest {
     dueRight("  \t\r\n % all of it ( \"", 0);
     dueRight("a;%b\nc;", 4);
     dueRight("a1_B + Ab;", 4);
+    dueRight("AZaz_09 = Z + z;", 6);
     dueRight("endif = iff + ends;", 6);
     dueRight("1.5e+10 + 2e-3 - 0.5;", 6);
     dueRight("1.*2./3.^4;", 8);
@@ -453,8 +454,47 @@ public final class PromisesTest {
     dueFault("try ".repeat(59) + "[`-b];");
     dueRight("try ".repeat(58) + "[~b];" + "catch end ".repeat(58), 174 + 5);
     dueFault("try ".repeat(59) + "[a`(1)];");
+    dueRight("-".repeat(59) + "(a)^" + "(".repeat(60) + "b" + ")".repeat(60) + ";", 185);
+    dueFault("-".repeat(59) + "(a)^" + "(".repeat(60) + "`(b");
+    dueRight("-".repeat(59) + "a(1)^" + "(".repeat(60) + "b" + ")".repeat(60) + ";", 186);
+    dueRight("-".repeat(58) + "[-a]^" + "(".repeat(60) + "b" + ")".repeat(60) + ";", 185);
+    dueFault("-".repeat(58) + "(-a + -b + (`-c));");
+    dueRight("try ".repeat(58) + "[~] = f((1));" + "catch end ".repeat(58), 174 + 11);
+    dueFault("try ".repeat(58) + "[~] = f((`(1)));");
     dueRight("try catch end ".repeat(100), 300);
     dueRight("(a);".repeat(100), 400);
+  }
+
+  /** Nothing of a text that was refused is left when the next one is read. */
+  private static void afterFaults() {
+    EquationText object = Texts.read("while (1) [");
+    Texts.feed(object, "break;");
+    object.read();
+    due("place() of break behind an open loop", object.place(), 0);
+    Texts.feed(object, "a + b * -(-");
+    object.read();
+    Texts.feed(object, "c;" + "(".repeat(61));
+    object.read();
+    due("place() of the 61st level behind open signs", object.place(), 62);
+    Texts.feed(object, "(".repeat(60) + "a" + ")".repeat(60) + ";");
+    due("read() of 60 levels behind 60 open ones", object.read(), 122);
+    Texts.feed(object, "function f() end function g(");
+    object.read();
+    Texts.feed(object, "function f() end");
+    due("read() of a function behind one of its name", object.read(), 5);
+    Texts.feed(object, "a(:, ");
+    object.read();
+    Texts.feed(object, "a(1, 2, 3);");
+    due("read() of three arguments behind an open ':'", object.read(), 9);
+    Texts.feed(object, "if (1) else ");
+    object.read();
+    Texts.feed(object, "if (1) else end");
+    due("read() of else behind an open else", object.read(), 6);
+    Texts.feed(object, "[a, ");
+    object.read();
+    Texts.feed(object, "([b]) + 1;");
+    due("read() of rows behind open targets", object.read(), 8);
+    due("write() of rows", object.write(), 9);
   }
 
   private static void placeAnswers() {
@@ -674,6 +714,10 @@ public final class PromisesTest {
     due("write() of far too much", other.write(), NONE);
     due("written(0) behind it", other.written(0), NONE);
     due("rewind() behind it", other.rewind(), 0);
+    Texts.feed(other, "a;");
+    other.read();
+    due("write() of little behind it", other.write(), 3);
+    due("written(0) of little behind it", other.written(0), (int) 'a');
   }
 
   private static void deepTrees() {
@@ -709,6 +753,7 @@ public final class PromisesTest {
     targetFaults();
     functionFaults();
     levels();
+    afterFaults();
     placeAnswers();
     trees();
     nodeAnswers();

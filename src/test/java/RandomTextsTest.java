@@ -117,6 +117,33 @@ public final class RandomTextsTest {
     }
   }
 
+  /** One object that reads texts one behind the other, for as long as its calls last. */
+  private static void compareInTurn(long seed) {
+    EquationText object = new EquationText();
+    int calls = 0;
+    int nodes = 0;
+    int length = 0;
+    for (int i = 0; calls < 400; i++) {
+      RandomTextsTest made = new RandomTextsTest(1000 * seed + i, 5 + i % 40);
+      made.program();
+      if (made.chance(70)) {
+        made.spoil();
+      }
+      String text = made.joined();
+      if (text.length() > 2000) {
+        continue;
+      }
+      SecondReader want = new SecondReader(text);
+      calls += Texts.feed(object, text) + 4;
+      due(text, "read() in turn", object.read(), want.count);
+      due(text, "place() in turn", object.place(), want.fault);
+      nodes = want.program == null ? nodes : want.nodes.size();
+      length = want.program == null ? length : want.form().length();
+      due(text, "nodes() in turn", object.nodes(), nodes);
+      due(text, "write() in turn", object.write(), nodes == 0 ? EquationText.NONE : length);
+    }
+  }
+
   // Texts that follow the grammar, for the most part.
 
   private void add(String... tokens) {
@@ -404,6 +431,9 @@ public final class RandomTextsTest {
       grow(seed, "try ".repeat(58), 100);
       grow(seed, "try ".repeat(59) + "[", 60);
       grow(seed, "x = " + "-".repeat(29) + "(".repeat(29), 100);
+    }
+    for (long seed = 0; seed < 300; seed++) {
+      compareInTurn(seed);
     }
     System.out.println(texts + " texts, " + rightTexts + " of them right, " + wrong + " wrong answers");
     System.exit(wrong == 0 && rightTexts > 5000 && texts - rightTexts > 5000 ? 0 : 1);

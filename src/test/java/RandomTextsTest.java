@@ -4,7 +4,6 @@ import java.util.Random;
 
 /** Promises 4 to 12 on many texts, right and wrong ones, against SecondReader. */
 public final class RandomTextsTest {
-  private static final String BEFORE = "kept;";
   private static final String[] TOKENS = {"a", "b", "f", "g", "abc_1", "1", "2.5", "1e3", "1e999", "0.1e-9", "\"x y\"", "\"\"",
       "||", "&&", "==", "~=", "<=", ">=", "<", ">", ":", "+", "-", "*", "/", "\\", ".*", "./", "^", ".^", "'", "~", "(", ")",
       "[", "]", ",", ";", "=", "if", "elseif", "else", "end", "while", "for", "break", "continue", "return", "function",
@@ -24,37 +23,6 @@ public final class RandomTextsTest {
     this.room = room;
   }
 
-  /** An object that has read a text; it is made anew before its calls are used up. */
-  private static final class Asked {
-    private final String text;
-    private EquationText object;
-    private int calls;
-    int answer;
-
-    Asked(String text) {
-      this.text = text;
-      make();
-    }
-
-    private void make() {
-      object = new EquationText();
-      calls = Texts.feed(object, BEFORE);
-      object.read();
-      calls += Texts.feed(object, text);
-      answer = object.read();
-      object.write();
-      calls += 3;
-    }
-
-    EquationText ask() {
-      if (calls >= 512) {
-        make();
-      }
-      calls++;
-      return object;
-    }
-  }
-
   private static void due(String text, String call, long got, long want) {
     if (got != want && wrong++ < 20) {
       System.out.println("after reading <" + text + "> " + call + " answered " + got + ", due is " + want);
@@ -64,8 +32,8 @@ public final class RandomTextsTest {
   private static void compare(String text) {
     texts++;
     SecondReader want = new SecondReader(text);
-    Asked got = new Asked(text);
-    due(text, "read()", got.answer, want.count);
+    Asked got = Asked.of(text);
+    due(text, "read()", got.tokens(), want.count);
     due(text, "place()", got.ask().place(), want.fault);
     if (want.program == null) {
       due(text, "nodes()", got.ask().nodes(), 3);
@@ -103,10 +71,7 @@ public final class RandomTextsTest {
       due(text, "written(" + i + ")", got.ask().written(i), i < form.length() ? form.charAt(i) : EquationText.NONE);
     }
     SecondReader again = new SecondReader(form);
-    EquationText object = new EquationText();
-    Texts.feed(object, text);
-    object.read();
-    object.write();
+    Counted object = Texts.write(text);
     due(text, "rewind()", object.rewind(), form.length());
     due(text, "read() of the form", object.read(), again.count);
     due(text, "place() in the form", object.place(), again.fault);
@@ -119,11 +84,10 @@ public final class RandomTextsTest {
 
   /** One object that reads texts one behind the other, for as long as its calls last. */
   private static void compareInTurn(long seed) {
-    EquationText object = new EquationText();
-    int calls = 0;
+    Counted object = new Counted();
     int nodes = 0;
     int length = 0;
-    for (int i = 0; calls < 400; i++) {
+    for (int i = 0; object.callsLeft() > 110; i++) {
       RandomTextsTest made = new RandomTextsTest(1000 * seed + i, 5 + i % 40);
       made.program();
       if (made.chance(70)) {
@@ -134,7 +98,7 @@ public final class RandomTextsTest {
         continue;
       }
       SecondReader want = new SecondReader(text);
-      calls += Texts.feed(object, text) + 4;
+      Texts.feed(object, text);
       due(text, "read() in turn", object.read(), want.count);
       due(text, "place() in turn", object.place(), want.fault);
       nodes = want.program == null ? nodes : want.nodes.size();

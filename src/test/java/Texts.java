@@ -1,22 +1,22 @@
-/** Puts texts on tapes and takes forms off objects, for the tests. */
+/** Puts texts on tapes, for the tests. */
 final class Texts {
   static final int FED = 20;
 
   private Texts() { }
 
-  /** Feeds a text to an object's tape, which is empty; answers how many calls that took. */
-  static int feed(EquationText object, String text) {
-    int calls = 0;
+  /** Feeds a text to an object's tape, behind what is there; answers how many characters there are then. */
+  static int feed(Counted object, String text) {
+    int answer = 0;
     for (int from = 0; from < text.length(); from += FED) {
-      object.feed(four(text, from), four(text, from + 4), four(text, from + 8), four(text, from + 12), four(text, from + 16));
-      calls++;
+      answer = feedFrom(object, text, from);
     }
     int rest = text.length() % FED;
-    if (rest != 0) {
-      object.end(rest);
-      calls++;
-    }
-    return calls;
+    return rest == 0 ? answer : object.end(rest);
+  }
+
+  /** Feeds twenty characters of a text, and zeros behind its end. */
+  static int feedFrom(Counted object, String text, int from) {
+    return object.feed(four(text, from), four(text, from + 4), four(text, from + 8), four(text, from + 12), four(text, from + 16));
   }
 
   private static int four(String text, int from) {
@@ -28,26 +28,35 @@ final class Texts {
   }
 
   /** A new object that has read the text. */
-  static EquationText read(String text) {
-    EquationText object = new EquationText();
+  static Counted read(String text) {
+    Counted object = new Counted();
     feed(object, text);
     object.read();
     return object;
   }
 
-  static String written(EquationText object, int length) {
-    StringBuilder form = new StringBuilder();
-    for (int i = 0; i < length; i++) {
-      form.append((char) object.written(i));
-    }
-    return form.toString();
+  /** A new object that has written the form of a text. */
+  static Counted write(String text) {
+    Counted object = read(text);
+    object.write();
+    return object;
   }
 
-  static String token(EquationText object, int k) {
-    StringBuilder token = new StringBuilder();
-    for (int i = 0; object.character(k, i) != EquationText.NONE; i++) {
-      token.append((char) object.character(k, i));
+  /** A text whose form has just so many characters, some 3,700 at the least; it is far shorter itself. */
+  static String withForm(int length) {
+    int trys = 59;
+    int indented = 2 * trys;
+    int rest = length;
+    for (int level = 0; level < trys; level++) {
+      rest -= 3 * 2 * level + "try\ncatch\nend\n".length();
     }
-    return token.toString();
+    StringBuilder lines = new StringBuilder();
+    while (rest > 2 * (indented + 3) + 200) {
+      lines.append("a;");
+      rest -= indented + 3;
+    }
+    int name = rest - 2 * (indented + 2) - 1;
+    lines.append("a;").append("b".repeat(name)).append(';');
+    return "try ".repeat(trys) + lines + "catch end ".repeat(trys);
   }
 }

@@ -121,6 +121,10 @@ public final class FormBoundsTest extends Checks {
         "function f()\n  if (a)\n    b;\n  elseif (c)\n    d;\n  else\n    e;\n  end\nend\n");
     dueForm("while (a) while (b) c; end d; end e;", "while (a)\n  while (b)\n    c;\n  end\n  d;\nend\ne;\n");
     dueForm("for (k = a) try b; catch c; end end", "for (k = a)\n  try\n    b;\n  catch\n    c;\n  end\nend\n");
+    for (String statement : new String[] {"a", "a = b", "a(1) = b", "[a, ~] = f()", "break", "continue", "return", "print a", "show a, b"}) {
+      dueForm("while(1)" + statement + ";end", "while (1)\n  " + statement + ";\nend\n");
+      dueForm("function g()for(k=1)" + statement + ";end end", "function g()\n  for (k = 1)\n    " + statement + ";\n  end\nend\n");
+    }
     for (int trys = 59; trys <= 60; trys++) {
       StringBuilder opened = new StringBuilder();
       StringBuilder closed = new StringBuilder();

@@ -281,6 +281,9 @@ public final class GrammarBoundsTest extends Checks {
     dueFault("-[a] `= f();");
     dueFault("[a, b] == c `= f();");
     dueFault("([~`, a]);");
+    dueFault("(~`, a) = f();");
+    dueFault("(~`] = f();");
+    dueFault("(~`) = f();");
     dueFault("x = [~`, a];");
     dueFault("print [~`];");
   }
@@ -329,6 +332,9 @@ public final class GrammarBoundsTest extends Checks {
     dueRight("return;", 2);
     dueRight("function f() return; end", 7);
     dueFault("return `1;");
+    dueFault("return`");
+    dueFault("a; return`");
+    dueFault("while (1) break`");
   }
 
   /** "A function has at most 8 parameters, which differ from one another, and 8 results, which do, too" */
@@ -410,6 +416,46 @@ public final class GrammarBoundsTest extends Checks {
     dueFault("function f() end `;");
     dueFault("function f() `else end");
     dueFault("function f() `catch end");
+  }
+
+  /** "if .. (elseif ..)* [ else statement* ] end" and "try .. catch .. end": one else, one catch, and nothing behind them but end. */
+  private static void lastBlocks() {
+    dueRight("if (1) end", 5);
+    dueRight("if (1) else end", 6);
+    dueFault("if (1) else `else end");
+    dueFault("if (1) else `elseif (1) end");
+    dueRight("if (1) " + "elseif (1) ".repeat(100) + "else end", 406);
+    dueFault("`else end");
+    dueFault("`elseif (1) end");
+    dueFault("while (1) `else end");
+    dueFault("for (k = 1) `elseif (1) end");
+    dueFault("try `end");
+    dueRight("try catch end", 3);
+    dueFault("try catch `catch end");
+    dueFault("try catch `else end");
+    dueFault("`catch end");
+    dueFault("if (1) `catch end");
+    dueFault("`end");
+    dueFault("if (1) end `end");
+    dueRight("if (1) if (1) else end else end", 12);
+    dueRight("try try catch end catch end", 6);
+  }
+
+  /** What stood open in a text that was refused is not open in the next one. */
+  private static void behindFaults() {
+    String[][] texts = {{"while (1) ", "`break;"}, {"for (k = 1) a", "`continue;"}, {"a(:, ", "a(1, 2, 3);"}, {"a(end, ", "b = a(1, 2, 3);"},
+        {"if (1) else ", "if (1) else end"}, {"try catch ", "try catch end"}, {"[a, ", "([b]) + 1;"}, {"[a, b", "([~`]);"},
+        {"function f() end function g(", "function f() end"}, {"function [a, b, c", "function [a, b] = g(c) end"},
+        {"print 1,2,3,4,5,6,7,8", "print 1,2,3,4,5,6,7,8;"}, {"f(1,2,3,4,5,6,7,8", "f(1,2,3,4,5,6,7,8);"}, {"a:b:c", "a:b:c;"},
+        {"a^-", "-a^-b;"}, {"x(", "`end;"}, {"x(", "(`end);"}};
+    for (String[] pair : texts) {
+      int place = pair[1].indexOf('`');
+      Counted object = Texts.read(pair[0]);
+      due("place() of " + pair[0], object.place(), pair[0].length());
+      Texts.feed(object, pair[1].replace("`", ""));
+      object.read();
+      due("place() of " + pair[1] + " behind " + pair[0], object.place(), place);
+    }
   }
 
   /** "range = sum [ ':' sum [ ':' sum ] ]" and "power = post (('^'|'.^') ['-'] post)*": no third ':' and no second '-'. */
@@ -505,6 +551,8 @@ public final class GrammarBoundsTest extends Checks {
     functionBounds();
     functionNames();
     functionHeads();
+    lastBlocks();
+    behindFaults();
     rangesAndPowers();
     beginnings();
     firstFault();

@@ -102,32 +102,10 @@ public final class PromisesTest extends Checks {
     dueFault("function f() `function g() end end");
   }
 
-  /** Nothing of a text that was refused is left when the next one is read. */
+  /** Nothing of texts that were refused is left when others are read, in one object. */
   private static void afterFaults() {
     Counted object = Texts.read("while (1) [");
-    Texts.feed(object, "break;");
-    object.read();
-    due("place() of break behind an open loop", object.place(), 0);
     Texts.feed(object, "a + b * -(-");
-    object.read();
-    Texts.feed(object, "c;" + "(".repeat(61));
-    object.read();
-    due("place() of the 61st level behind open signs", object.place(), 62);
-    Texts.feed(object, "(".repeat(60) + "a" + ")".repeat(60) + ";");
-    due("read() of 60 levels behind 60 open ones", object.read(), 122);
-    Texts.feed(object, "function f() end function g(");
-    object.read();
-    Texts.feed(object, "function f() end");
-    due("read() of a function behind one of its name", object.read(), 5);
-    Texts.feed(object, "a(:, ");
-    object.read();
-    Texts.feed(object, "a(1, 2, 3);");
-    due("read() of three arguments behind an open ':'", object.read(), 9);
-    Texts.feed(object, "if (1) else ");
-    object.read();
-    Texts.feed(object, "if (1) else end");
-    due("read() of else behind an open else", object.read(), 6);
-    Texts.feed(object, "[a, ");
     object.read();
     Texts.feed(object, "([b]) + 1;");
     due("read() of rows behind open targets", object.read(), 8);

@@ -218,6 +218,17 @@ public final class TreeBoundsTest extends Checks {
     due("part(11, 7) of eight parameters", eight.part(11, 7), 19);
   }
 
+  /** A node's token is whole, be it of one character or of more: at the beginning of rows and statements, and before brackets. */
+  private static void longTokens() {
+    dueTree("[abc, d; 12.5e1];", "0@0(20@0{[}(36@0{[}(37@1{abc}(32@1{abc} 32@6{d}) 37@9{12.5e1}(30@9{12.5e1}))))");
+    dueTree("abc;", "0@0(20@0{abc}(32@0{abc}))");
+    dueTree("abc(1);", "0@0(20@0{abc}(33@0/3{abc}(30@4{1})))");
+    dueTree("[abc] = def(1);", "0@0(10@6/0{=}(2@0(32@1{abc}) 33@8/11{def}(30@12{1})))");
+    dueTree(" [ab, cd] = ef();", "0@0(10@10/1{=}(2@1(32@2{ab} 32@6{cd}) 33@12/14{ef}))");
+    dueTree(" [ab, ~, cd] = ef();", "0@0(10@13/1{=}(2@1(32@2{ab} 5@6{~} 32@9{cd}) 33@15/17{ef}))");
+    dueTree("function ab = cde(fg) end", "0@0(1@0{cde}(2@14(32@9{ab}) 2@17(32@18{fg}) 3@20))");
+  }
+
   /** Trees as deep and as broad as 512 calls can make them. */
   private static void largeTrees() {
     Counted turned = Texts.read("a" + "'".repeat(10000) + ";");
@@ -247,6 +258,7 @@ public final class TreeBoundsTest extends Checks {
     characters();
     brackets();
     namesOfFunctions();
+    longTokens();
     largeTrees();
     finish();
   }

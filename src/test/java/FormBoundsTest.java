@@ -6,7 +6,8 @@ public final class FormBoundsTest extends Checks {
   /** For each rank from 1 parts in their one form that have it. */
   private static final String[][] PARTS = {{}, {"a || b"}, {"a && b"}, {"a == b", "a ~= b", "a < b", "a <= b", "a > b", "a >= b"},
       {"a:b", "a:b:c"}, {"a + b", "a - b"}, {"a * b", "a / b", "a \\ b", "a .* b", "a ./ b"},
-      {"-a", "+a", "~a", "-a'", "-f(1)", "-[1]", "-a^b", "--a", "-(a * b)", "-(a + b)", "-(a || b)", "+a'", "~a^b"}, {"a^b", "a.^b", "a^-b"},
+      {"-a", "+a", "~a", "-a'", "-f(1)", "-[1]", "-a^b", "--a", "-(a * b)", "-(a + b)", "-(a || b)", "+a'", "~a^b"},
+      {"a^b", "a.^b", "a^-b"},
       {"a'", "a''", "f(1)'", "(a + b)'"}, {"a", "1", "2.5e1", "\"t\"", "f()", "f(1, :)", "f(end)", "[]", "[1, 2; 3]"}};
 
   private static String bracketed(boolean needed, String part) {
@@ -121,7 +122,8 @@ public final class FormBoundsTest extends Checks {
         "function f()\n  if (a)\n    b;\n  elseif (c)\n    d;\n  else\n    e;\n  end\nend\n");
     dueForm("while (a) while (b) c; end d; end e;", "while (a)\n  while (b)\n    c;\n  end\n  d;\nend\ne;\n");
     dueForm("for (k = a) try b; catch c; end end", "for (k = a)\n  try\n    b;\n  catch\n    c;\n  end\nend\n");
-    for (String statement : new String[] {"a", "a = b", "a(1) = b", "[a, ~] = f()", "break", "continue", "return", "print a", "show a, b"}) {
+    String[] plain = {"a", "a = b", "a(1) = b", "[a, ~] = f()", "break", "continue", "return", "print a", "show a, b"};
+    for (String statement : plain) {
       dueForm("while(1)" + statement + ";end", "while (1)\n  " + statement + ";\nend\n");
       dueForm("function g()for(k=1)" + statement + ";end end", "function g()\n  for (k = 1)\n    " + statement + ";\n  end\nend\n");
     }

@@ -284,6 +284,9 @@ public final class GrammarBoundsTest extends Checks {
     dueFault("(~`, a) = f();");
     dueFault("(~`] = f();");
     dueFault("(~`) = f();");
+    dueFault("~`, a] = f();");
+    dueFault("[a]; try ~`, a] = f(); catch end");
+    dueFault("[a] = f(); try print ~`; catch end");
     dueFault("x = [~`, a];");
     dueFault("print [~`];");
   }
@@ -443,8 +446,8 @@ public final class GrammarBoundsTest extends Checks {
 
   /** What stood open in a text that was refused is not open in the next one. */
   private static void behindFaults() {
-    String[][] texts = {{"while (1) ", "`break;"}, {"for (k = 1) a", "`continue;"}, {"a(:, ", "a(1, 2, 3);"}, {"a(end, ", "b = a(1, 2, 3);"},
-        {"if (1) else ", "if (1) else end"}, {"try catch ", "try catch end"}, {"[a, ", "([b]) + 1;"}, {"[a, b", "([~`]);"},
+    String[][] texts = {{"while (1) ", "`break;"}, {"for (k = 1) a", "`continue;"}, {"a(:, ", "a(1, 2, 3);"},
+        {"a(end, ", "b = a(1, 2, 3);"}, {"if (1) else ", "if (1) else end"}, {"try catch ", "try catch end"}, {"[a, ", "([b]) + 1;"}, {"[a, b", "([~`]);"},
         {"function f() end function g(", "function f() end"}, {"function [a, b, c", "function [a, b] = g(c) end"},
         {"print 1,2,3,4,5,6,7,8", "print 1,2,3,4,5,6,7,8;"}, {"f(1,2,3,4,5,6,7,8", "f(1,2,3,4,5,6,7,8);"}, {"a:b:c", "a:b:c;"},
         {"a^-", "-a^-b;"}, {"x(", "`end;"}, {"x(", "(`end);"}};

@@ -248,6 +248,32 @@ public final class PromisesTest extends Checks {
     due("rewind() of an empty form", object.rewind(), 0);
   }
 
+  /** The example of README.md, call by call. */
+  private static void example() {
+    Counted x = new Counted();
+    due("feed of the example", x.feed(0x61203D20, 0x622B313B, 0, 0, 0), 20);
+    due("end(8) of the example", end(x, 8), "8");
+    due("read() of the example", x.read(), 6);
+    due("place() of the example", x.place(), NONE);
+    due("nodes() of the example", x.nodes(), 6);
+    due("node(3, 0) of the example", x.node(3, 0), 40);
+    due("node(3, 1) of the example", x.node(3, 1), 5);
+    due("node(3, 2) of the example", x.node(3, 2), NONE);
+    due("node(3, 3) of the example", x.node(3, 3), 2);
+    due("part(3, 1) of the example", x.part(3, 1), 5);
+    due("character(3, 0) of the example", x.character(3, 0), (int) '+');
+    due("character(3, 1) of the example", x.character(3, 1), NONE);
+    due("write() of the example", x.write(), 11);
+    due("written(0) of the example", x.written(0), (int) 'a');
+    due("written(10) of the example", x.written(10), 10);
+    due("rewind() of the example", x.rewind(), 11);
+    due("feed of what is wrong in the example", x.feed(0x29202020, 0, 0, 0, 0), 31);
+    due("end(1) of the example", end(x, 1), "12");
+    due("read() of what is wrong in the example", x.read(), NONE);
+    due("place() of what is wrong in the example", x.place(), 11);
+    due("nodes() behind what is wrong in the example", x.nodes(), 6);
+  }
+
   private static void deepTrees() {
     String turned = "a" + "'".repeat(8000) + ";";
     Counted object = dueRight(turned, 8002);
@@ -276,6 +302,7 @@ public final class PromisesTest extends Checks {
     trees();
     forms();
     writtenAnswers();
+    example();
     deepTrees();
     finish();
   }
